@@ -33,39 +33,33 @@ final class Hand {
         return p.stroke(layer);
     }
 
-    /** INK and COVER of all dots of a layer, as one number. */
+    /** INK and COVER of some dots of a layer, as one number (few calls: an object has 512). */
     static long printOf(RasterPainter p, int layer) {
-        long print = 7;
-        for (int y = 0; y < 12; y++) {
-            for (int x = 0; x < 16; x++) {
-                print = print * 1000003 + p.dot(layer, x, y, 0) * 256L + p.dot(layer, x, y, 1);
-            }
+        long print = p.told(layer, 3);
+        for (int k = 0; k < 8; k++) {
+            int x = 2 * k + 1;
+            int y = k + 2;
+            print = print * 1000003 + p.dot(layer, x, y, 0) * 256L + p.dot(layer, x, y, 1);
         }
         return print;
     }
 
-    /** All that can be asked of the state without changing it, as one number. */
+    /** Much of what can be asked of the state without changing it, as one number. */
     static long printOf(RasterPainter p) {
         long print = 3;
         for (int what = 0; what < 8; what++) {
             print = print * 31 + p.count(what);
         }
-        for (int layer = 0; layer < 4; layer++) {
+        for (int layer = 0; layer < p.count(0); layer++) {
             print = print * 1000003 + printOf(p, layer);
-            for (int what = 0; what < 4; what++) {
+            for (int what = 0; what < 3; what++) {
                 print = print * 31 + p.told(layer, what);
             }
         }
         for (int y = 0; y < 12; y++) {
-            print = print * 1000003 + p.masked(y);
-            for (int x = 0; x < 16; x++) {
-                print = print * 1000003 + p.dot(-1, x, y, 0);
-            }
+            print = print * 1000003 + p.masked(y) * 256L + p.dot(-1, y, y, 0);
         }
-        for (int d = 0; d < 10; d++) {
-            print = print * 31 + p.touch(d, 0) * 3 + p.touch(d, d);
-        }
-        return print;
+        return print * 31 + p.touch(1, 1);
     }
 
     /** The dots with COVER in row y of a layer, as bits by x. */
