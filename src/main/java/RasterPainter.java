@@ -311,11 +311,7 @@ public final class RasterPainter {
                 otherwise++;
             }
         }
-        int common = commonDivisor(otherwise, m);
-        if (common < 1) {
-            return BAD;
-        }
-        return (part == 0 ? otherwise : m) / common;
+        return part == 0 ? inLowestTerms(otherwise, m) : inLowestTerms(m, otherwise);
     }
 
     // ---- what was told
@@ -481,14 +477,14 @@ public final class RasterPainter {
         return y * WIDTH + x;
     }
 
-    /** The greatest number that divides both; m is 1 or more. */
-    private static int commonDivisor(int part, int m) {
-        for (int d = m; d > 1; d--) {
-            if (part % d == 0 && m % d == 0) {
-                return d;
+    /** One side of a fraction; neither side is above the number of seeds. */
+    private static int inLowestTerms(int side, int otherSide) {
+        for (int d = SEEDS_MOST; d > 1; d--) {
+            if (side % d == 0 && otherSide % d == 0) {
+                return side / d;
             }
         }
-        return 1;
+        return side;
     }
 
     // ---- helpers of the face
@@ -864,7 +860,6 @@ public final class RasterPainter {
 
         void note(int layerNumber, Layer before) {
             layer = layerNumber;
-            tiles = 0;
             System.arraycopy(before.inks, 0, inks, 0, DOTS);
             System.arraycopy(before.covers, 0, covers, 0, DOTS);
         }
@@ -1243,11 +1238,11 @@ public final class RasterPainter {
         }
 
         private static boolean isLetter(int b) {
-            return isWithin(b, 'a', 'z');
+            return b >= 'a' && b <= 'z';
         }
 
         private static boolean isDigit(int b) {
-            return isWithin(b, '0', '9');
+            return b >= '0' && b <= '9';
         }
     }
 

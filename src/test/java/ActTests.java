@@ -91,6 +91,16 @@ final class ActTests {
         return p;
     }
 
+    /** Walls from above and from below by turns: a region goes round them up and down. */
+    private static RasterPainter withMaze() {
+        RasterPainter p = Hand.withLayers(1);
+        p.box(0, 3, 0, 3, 10);
+        p.box(0, 6, 1, 6, 11);
+        p.box(0, 9, 0, 9, 10);
+        p.box(0, 12, 1, 12, 11);
+        return p;
+    }
+
     private static void promise14Flood() {
         RasterPainter p = Hand.withLayers(1);
         p.brush(0, 0, 50, 9);
@@ -107,6 +117,11 @@ final class ActTests {
         p.brush(0, 0, -1, 9);
         due("wiped", p.flood(0, 0, 0, 255), 192);
         due("wiped away", p.told(0, 3), 0);
+        for (int turn = 0; turn < 4; turn++) {
+            RasterPainter way = withMaze();
+            int x = turn % 2 == 0 ? 0 : 15;
+            due("all the way of a maze", way.flood(0, x, turn < 2 ? 0 : 11, 0), 192 - 4 * 11);
+        }
         RasterPainter q = Hand.withLayers(1);
         q.brush(0, 0, 0, 9);
         q.box(0, 0, 1, 1, 1);
@@ -249,8 +264,12 @@ final class ActTests {
         due("no more", p.undo(1), Hand.STATE);
         p.box(0, 15, 11, 15, 11);
         due("still ten", p.count(1), 10);
-        for (int i = 0; i < 10; i++) {
-            p.undo(0);
+        due("the latest of ten", p.undo(0), 1);
+        due("is the latest", p.dot(0, 15, 11, 1), 0);
+        for (int i = 1; i < 10; i++) {
+            due("the one before", p.undo(0), 1);
+            due("is gone", p.dot(0, 13 - i, 0, 1), 0);
+            due("the one before that is not", p.dot(0, 12 - i, 0, 1), 255);
         }
         due("one more went", Hand.coveredRow(p, 0, 0), 0b1111);
     }

@@ -18,6 +18,8 @@ final class BrushTests {
         promise12FaultOfBytes();
         promise12FaultsPaintNothing();
         promise12Stamps();
+        promise12FullTape();
+        promise12NoneOfTheLastTape();
         promise12Lines();
         promise12Paints();
         promise12Mask();
@@ -256,6 +258,34 @@ final class BrushTests {
         due("keeps no act", p.count(1), 0);
         due("leaves what can be done again", p.undo(1), 1);
         due("the next stroke begins anew", Hand.stroke(p, 0, "move 5 5"), 1);
+    }
+
+    private static void promise12FullTape() {
+        String long1 = "move 0 0 across 15 across 0 across 15 across 0 across 15 ";
+        fault(long1 + "x", 57);
+        fault(long1 + "  x", 59);
+        fault(long1 + " 11", 58);
+        stamps(long1 + "   ", 76);
+        fault(long1.trim() + "down", 60);
+        stamps("move 0 0 line 15 11 close line 15 11 close line 15 11  close", 91);
+        stamps("move 0 0 line 15 11 close line 15 11 close close across   15", 76);
+        fault("move 0 0 line 15 11 close line 15 11 close close close  down", 60);
+        fault("move 0 0 line 15 11 close line 15 11 close close close line ", 60);
+    }
+
+    private static void promise12NoneOfTheLastTape() {
+        String[] before = {"move 1 16 line 2 2", "movex  5 5 close", "move 1 1  close x"};
+        for (String text : before) {
+            RasterPainter p = Hand.withLayers(1);
+            Hand.stroke(p, 0, text);
+            due("behind '" + text + "'", Hand.stroke(p, 0, "move 1 1"), 1);
+            Hand.stroke(p, 0, text);
+            due("a word behind '" + text + "'", Hand.stroke(p, 0, "move"), -104);
+            Hand.stroke(p, 0, text);
+            due("a number behind '" + text + "'", Hand.stroke(p, 0, "move 1"), -106);
+            Hand.stroke(p, 0, text);
+            due("a blank behind '" + text + "'", Hand.stroke(p, 0, "move "), -105);
+        }
     }
 
     private static void stamps(String text, int want) {

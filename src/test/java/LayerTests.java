@@ -84,6 +84,7 @@ final class LayerTests {
         due("layer BAD figure before FULL", p.layer(0, 100, 0), Hand.BAD);
         due("layer BAD opacity before FULL", p.layer(0, 0, 256), Hand.BAD);
         RasterPainter q = Hand.withLayers(2);
+        q.brush(0, 0, 50, 9);
         q.box(0, 0, 0, 15, 11);
         q.box(1, 0, 0, 15, 11);
         q.drop(1);
@@ -385,6 +386,14 @@ final class LayerTests {
         p.move(0, 1);
         // 90 and 128 are 38 apart, then 38*200/255
         due("order matters", p.dot(-1, 0, 0, 0), 29);
+        p.layer(0, 0, 255);
+        p.layer(0, 0, 255);
+        due("empty layers aren't seen", p.dot(-1, 0, 0, 0), 29);
+        p.brush(0, 0, 9, 9);
+        p.box(3, 0, 0, 0, 0);
+        due("the highest of four", p.dot(-1, 0, 0, 0), 9);
+        p.drop(3);
+        due("one that went isn't seen", p.dot(-1, 0, 0, 0), 29);
         p.dress(1, 1, 0, 128);
         // 38 + (29 - 38) * 128 / 255 is 38 - 4
         due("mode by opacity", p.dot(-1, 0, 0, 0), 34);

@@ -81,6 +81,24 @@ final class SeenTests {
         due("below left", leastBelow(4), 128 - 18);
         due("below", leastBelow(5), 128 - 31 - 8 - 7);
         due("left of that nothing came", leastBelow(3), 128);
+        RasterPainter right = withPaper(0);
+        right.brush(0, 0, 128, 9);
+        right.box(0, 5, 0, 5, 0);
+        right.brush(0, 0, 55, 9);
+        right.box(0, 6, 0, 6, 0);
+        // -127 is left at (5, 0): 55 to the right, so nothing is left at (6, 0); -23 below left,
+        // -39 below, -7 below right; (4, 1) leaves -23, (5, 1) -39 - 10, (6, 1) then -7 - 21
+        right.brush(0, 0, 155, 9);
+        right.box(0, 6, 1, 6, 1);
+        due("below right", right.dither(0, 1) >> 6 & 1, 0);
+        right.brush(0, 0, 156, 9);
+        right.box(0, 6, 1, 6, 1);
+        due("below right, light", right.dither(0, 1) >> 6 & 1, 1);
+        RasterPainter above = withPaper(0);
+        above.brush(0, 0, 255, 9);
+        above.box(0, 0, 0, 15, 10);
+        due("white rows above", above.dither(0, 10), 0xffff);
+        due("a black row below", above.dither(0, 11), 0);
         RasterPainter p = withPaper(0);
         p.brush(0, 0, 100, 9);
         p.box(0, 15, 0, 15, 0);

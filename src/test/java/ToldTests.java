@@ -15,6 +15,7 @@ final class ToldTests {
         promise26Image();
         promise27Back();
         promise27Acts();
+        promise27ActsOfLayers();
         promise27NotKept();
         promise28Count();
         CHECK.close();
@@ -155,6 +156,10 @@ final class ToldTests {
         due("film of ints", p.film(3, 0), 16);
         due("are shorts now", p.copy(2, 0, 3, 0, 16), 16);
         due("16 now", p.put(3, 16, 0), Hand.OUTSIDE);
+        for (int y = 0; y < 12; y++) {
+            p.film(0, y);
+            due("film of row " + y, p.tells(0, y, 0), -1);
+        }
         p.film(1, 4);
         p.box(0, 0, 4, 0, 4);
         due("a film stays as it was taken", p.tells(1, 4, 0), 0);
@@ -252,6 +257,34 @@ final class ToldTests {
         p.back();
         due("back after undo", p.told(0, 3), 6);
         due("acts again", p.count(1), 2);
+    }
+
+    private static void promise27ActsOfLayers() {
+        RasterPainter p = Hand.withLayers(3);
+        p.brush(0, 0, 70, 9);
+        p.box(2, 0, 0, 5, 5);
+        p.brush(0, 0, 90, 9);
+        p.box(2, 0, 0, 5, 5);
+        p.box(1, 0, 0, 0, 0);
+        p.undo(0);
+        p.image();
+        p.layer(0, 0, 0);
+        p.brush(0, 0, 9, 9);
+        for (int i = 0; i < 10; i++) {
+            p.box(3, i, i, i, i);
+        }
+        p.back();
+        due("done again in its layer", p.undo(1), 1);
+        due("its ink", p.dot(1, 0, 0, 0), 90);
+        p.undo(0);
+        due("undone in its layer", p.dot(1, 0, 0, 1), 0);
+        due("and the one before", p.undo(0), 4);
+        due("the ink that was", p.dot(2, 5, 5, 0), 70);
+        p.undo(1);
+        due("the ink again", p.dot(2, 5, 5, 0), 90);
+        p.undo(0);
+        due("and the first", p.undo(0), 4);
+        due("nothing then", p.dot(2, 5, 5, 0), 0);
     }
 
     private static void promise27NotKept() {
