@@ -117,6 +117,13 @@ final class ActTests {
         p.brush(0, 0, -1, 9);
         due("wiped", p.flood(0, 0, 0, 255), 192);
         due("wiped away", p.told(0, 3), 0);
+        RasterPainter two = Hand.withLayers(1);
+        two.box(0, 5, 4, 5, 5);
+        two.box(0, 8, 4, 9, 4);
+        due("one above", two.flood(0, 5, 5, 0), 2);
+        due("one below", two.flood(0, 5, 4, 0), 2);
+        due("one left", two.flood(0, 9, 4, 0), 2);
+        due("one right", two.flood(0, 8, 4, 0), 2);
         for (int turn = 0; turn < 4; turn++) {
             RasterPainter way = withMaze();
             int x = turn % 2 == 0 ? 0 : 15;
@@ -264,6 +271,8 @@ final class ActTests {
         due("no more", p.undo(1), Hand.STATE);
         p.box(0, 15, 11, 15, 11);
         due("still ten", p.count(1), 10);
+        p.box(0, 15, 11, 15, 11);
+        due("ten, by an unchanged one", p.count(3), 10);
         due("the latest of ten", p.undo(0), 1);
         due("is the latest", p.dot(0, 15, 11, 1), 0);
         for (int i = 1; i < 10; i++) {

@@ -201,6 +201,10 @@ final class BrushTests {
         fault("mov 1 1", 0);
         fault("moves 1 1", 0);
         fault("moveline 1 1", 0);
+        fault("movez 1 1", 0);
+        fault("amove 1 1", 0);
+        fault("move 1 1 closea", 9);
+        fault("move 1 1 zclose", 9);
         fault("move move", 5);
         fault("move x 1", 5);
         fault("move 16 0", 5);

@@ -94,6 +94,19 @@ final class SeenTests {
         right.brush(0, 0, 156, 9);
         right.box(0, 6, 1, 6, 1);
         due("below right, light", right.dither(0, 1) >> 6 & 1, 1);
+        RasterPainter dark = withPaper(0);
+        dark.brush(0, 0, 112, 9);
+        dark.box(0, 5, 0, 5, 0);
+        dark.brush(0, 0, 206, 9);
+        dark.box(0, 6, 0, 6, 0);
+        // 112 is left at (5, 0): 49 to the right, so nothing is left at (6, 0); 21 below left,
+        // 35 below, 7 below right; (4, 1) leaves 9, (5, 1) 19, (6, 1) has 7 + 19 then
+        dark.brush(0, 0, 101, 9);
+        dark.box(0, 6, 1, 6, 1);
+        due("below right of a dark one", dark.dither(0, 1) >> 6 & 1, 0);
+        dark.brush(0, 0, 102, 9);
+        dark.box(0, 6, 1, 6, 1);
+        due("below right of a dark one, light", dark.dither(0, 1) >> 6 & 1, 1);
         RasterPainter above = withPaper(0);
         above.brush(0, 0, 255, 9);
         above.box(0, 0, 0, 15, 10);
