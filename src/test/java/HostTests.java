@@ -7,12 +7,9 @@ final class HostTests {
 
     public static void main(String[] args) {
         promise29Sheet();
-        promise29Refusals();
         promise30Put();
-        promise30Refusals();
         promise31Copy();
         promise31Itself();
-        promise31Refusals();
         CHECK.close();
     }
 
@@ -53,26 +50,6 @@ final class HostTests {
         due("others stay", p.put(3, 39, 5), 1);
     }
 
-    private static void promise29Refusals() {
-        RasterPainter p = new RasterPainter();
-        p.sheet(1, 0, 3);
-        due("sheet -1", p.sheet(-1, 0, 3), Hand.BAD);
-        due("sheet 4", p.sheet(4, 0, 3), Hand.BAD);
-        due("sort -2", p.sheet(1, -2, 3), Hand.BAD);
-        due("sort 2", p.sheet(1, 2, 3), Hand.BAD);
-        due("n 41", p.sheet(1, 0, 41), Hand.BAD);
-        due("n -1", p.sheet(1, 0, -1), Hand.BELOW_ZERO);
-        due("BAD sort before -14", p.sheet(1, 2, -1), Hand.BAD);
-        due("BAD sheet before -14", p.sheet(4, 0, -1), Hand.BAD);
-        for (int far : Hand.FAR) {
-            due("far sheet", p.sheet(far, 0, 3), Hand.BAD);
-            due("far sort", p.sheet(1, far, 3), Hand.BAD);
-            due("far n", p.sheet(1, 1, far), far < 0 ? Hand.BELOW_ZERO : Hand.BAD);
-        }
-        due("refused leaves it", p.put(1, 2, 0), 1);
-        due("refused leaves its size", p.put(1, 3, 0), Hand.OUTSIDE);
-    }
-
     private static void promise30Put() {
         RasterPainter p = withColumns();
         p.sheet(0, 1, 4);
@@ -89,22 +66,6 @@ final class HostTests {
         p.put(1, 1, 10 + 65536);
         p.put(1, 2, 20 - 65536);
         due("of shorts the lowest 16 bits", p.tells(1, 0, 0), -1);
-    }
-
-    private static void promise30Refusals() {
-        RasterPainter p = new RasterPainter();
-        due("put into a missing one", p.put(0, 0, 0), Hand.MISSING);
-        due("BAD sheet", p.put(4, 0, 0), Hand.BAD);
-        due("BAD sheet -1", p.put(-1, 0, 0), Hand.BAD);
-        due("-11 before -12", p.put(0, -1, 0), Hand.MISSING);
-        p.sheet(0, 0, 3);
-        due("-12", p.put(0, -1, 0), Hand.OUTSIDE);
-        due("-12 behind", p.put(0, 3, 0), Hand.OUTSIDE);
-        for (int far : Hand.FAR) {
-            due("put far sheet", p.put(far, 0, 0), Hand.BAD);
-            due("put far place", p.put(0, far, 0), Hand.OUTSIDE);
-            due("put far number", p.put(0, 0, far), 1);
-        }
     }
 
     private static void promise31Copy() {
@@ -148,35 +109,5 @@ final class HostTests {
         due("down within itself", p.copy(0, 1, 0, 0, 3), 3);
         p.put(0, 3, 30);
         due("as they were, down", p.tells(0, 0, 0), -1);
-    }
-
-    private static void promise31Refusals() {
-        RasterPainter p = new RasterPainter();
-        p.sheet(0, 0, 5);
-        p.sheet(1, 1, 5);
-        p.sheet(2, 0, 3);
-        due("BAD sheet", p.copy(4, 0, 0, 0, 1), Hand.BAD);
-        due("BAD sheet -1", p.copy(-1, 0, 0, 0, 1), Hand.BAD);
-        due("BAD other", p.copy(0, 0, 4, 0, 1), Hand.BAD);
-        due("BAD other -1", p.copy(0, 0, -1, 0, 1), Hand.BAD);
-        due("BAD other before -11", p.copy(3, 0, 4, 0, 1), Hand.BAD);
-        due("-11", p.copy(3, 0, 0, 0, 1), Hand.MISSING);
-        due("-11 other", p.copy(0, 0, 3, 0, 1), Hand.MISSING);
-        due("-11 before -12", p.copy(3, -1, 0, -1, -1), Hand.MISSING);
-        due("-13", p.copy(0, 0, 1, 0, 1), Hand.UNLIKE);
-        due("-13 before -12", p.copy(0, -1, 1, 9, -1), Hand.UNLIKE);
-        int[][] outside = {{-1, 0, 1}, {0, -1, 1}, {0, 0, -1}, {5, 0, 1}, {0, 3, 1}, {0, 0, 4}, {3, 0, 3},
-            {0, 1, 3}, {6, 0, 0}, {0, 4, 0}, {-1, 0, 0}, {0, -1, 0}};
-        for (int[] o : outside) {
-            due("-12 of " + o[0] + " " + o[1] + " " + o[2], p.copy(0, o[0], 2, o[1], o[2]), Hand.OUTSIDE);
-        }
-        for (int far : Hand.FAR) {
-            due("copy far sheet", p.copy(far, 0, 2, 0, 1), Hand.BAD);
-            due("copy far other", p.copy(0, 0, far, 0, 1), Hand.BAD);
-            due("copy far i", p.copy(0, far, 2, 0, 1), Hand.OUTSIDE);
-            due("copy far j", p.copy(0, 0, 2, far, 1), Hand.OUTSIDE);
-            due("copy far n", p.copy(0, 0, 2, 0, far), Hand.OUTSIDE);
-            due("copy far i and n", p.copy(0, far, 2, 0, Integer.MAX_VALUE), Hand.OUTSIDE);
-        }
     }
 }

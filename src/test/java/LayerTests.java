@@ -9,23 +9,16 @@ final class LayerTests {
         promise1NewObject();
         promise1ObjectsAreApart();
         promise2Layer();
-        promise2Refusals();
         promise2ForgetsActs();
         promise3Drop();
-        promise3Refusals();
         promise4Move();
-        promise4Refusals();
         promise5Dress();
         promise5Paper();
-        promise5Refusals();
         promise6Told();
         promise7Makes();
-        promise7Under();
-        promise7Refusals();
         promise8Dot();
         promise8Seen();
         promise8SeenByModes();
-        promise8Refusals();
         CHECK.close();
     }
 
@@ -94,20 +87,6 @@ final class LayerTests {
         due("layer below stays", q.told(0, 3), 192);
     }
 
-    private static void promise2Refusals() {
-        RasterPainter p = new RasterPainter();
-        int[][] wrong = {{-1, 0, 0}, {6, 0, 0}, {0, -1, 0}, {0, 100, 0}, {0, 0, -1}, {0, 0, 256}};
-        for (int[] w : wrong) {
-            due("layer wrong", p.layer(w[0], w[1], w[2]), Hand.BAD);
-        }
-        for (int far : Hand.FAR) {
-            due("layer far mode", p.layer(far, 0, 0), Hand.BAD);
-            due("layer far figure", p.layer(0, far, 0), Hand.BAD);
-            due("layer far opacity", p.layer(0, 0, far), Hand.BAD);
-        }
-        due("layer refused leaves", p.count(0), 0);
-    }
-
     private static void promise2ForgetsActs() {
         RasterPainter p = Hand.withLayers(1);
         p.box(0, 0, 0, 0, 0);
@@ -162,23 +141,6 @@ final class LayerTests {
         due("empty behind drop", p.told(0, 3), 0);
     }
 
-    private static void promise3Refusals() {
-        RasterPainter p = Hand.withLayers(2);
-        p.box(1, 0, 0, 5, 5);
-        due("drop -1", p.drop(-1), Hand.BAD);
-        due("drop 2 of 2", p.drop(2), Hand.BAD);
-        for (int far : Hand.FAR) {
-            due("drop far", p.drop(far), Hand.BAD);
-        }
-        due("drop refused keeps acts", p.count(1), 1);
-        due("drop refused keeps layers", p.count(0), 2);
-        p.box(1, 9, 9, 9, 9);
-        p.undo(0);
-        due("drop", p.drop(0), 1);
-        due("drop forgets acts", p.count(1), 0);
-        due("drop forgets undone", p.count(2), 0);
-    }
-
     private static void promise4Move() {
         RasterPainter p = withFigures();
         due("move up", p.move(0, 2), 2);
@@ -196,20 +158,6 @@ final class LayerTests {
         due("move to where it is", p.move(2, 2), 2);
         due("move to where it is forgets acts", p.count(1), 0);
         due("move to where it is forgets undone", p.count(2), 0);
-    }
-
-    private static void promise4Refusals() {
-        RasterPainter p = Hand.withLayers(2);
-        p.box(0, 0, 0, 0, 0);
-        due("move -1", p.move(-1, 0), Hand.BAD);
-        due("move 2 of 2", p.move(2, 0), Hand.BAD);
-        due("move to -1", p.move(0, -1), Hand.BAD);
-        due("move to 2 of 2", p.move(0, 2), Hand.BAD);
-        for (int far : Hand.FAR) {
-            due("move far", p.move(far, 0), Hand.BAD);
-            due("move to far", p.move(0, far), Hand.BAD);
-        }
-        due("move refused keeps acts", p.count(1), 1);
     }
 
     private static void promise5Dress() {
@@ -239,22 +187,6 @@ final class LayerTests {
         due("paper without layers", new RasterPainter().dress(-1, 0, 0, 9), 255);
     }
 
-    private static void promise5Refusals() {
-        RasterPainter p = Hand.withLayers(1);
-        int[][] wrong = {{1, 0, 0, 0}, {-2, 0, 0, 0}, {0, -1, 0, 0}, {0, 6, 0, 0},
-            {0, 0, -1, 0}, {0, 0, 100, 0}, {0, 0, 0, -1}, {0, 0, 0, 256}};
-        for (int[] w : wrong) {
-            due("dress wrong", p.dress(w[0], w[1], w[2], w[3]), Hand.BAD);
-        }
-        for (int far : Hand.FAR) {
-            due("dress far layer", p.dress(far, 0, 0, 0), Hand.BAD);
-            due("dress far mode", p.dress(0, far, 0, 0), Hand.BAD);
-            due("dress far figure", p.dress(0, 0, far, 0), Hand.BAD);
-            due("dress far opacity", p.dress(0, 0, 0, far), Hand.BAD);
-        }
-        due("dress refused leaves opacity", p.told(0, 2), 255);
-    }
-
     private static void promise6Told() {
         RasterPainter p = new RasterPainter();
         p.layer(1, 2, 3);
@@ -268,14 +200,6 @@ final class LayerTests {
         p.brush(3, 0, 0, 1);
         Hand.stroke(p, 0, "move 3 3");
         due("told counts the least cover", p.told(0, 3), 1);
-        due("told what -1", p.told(0, -1), Hand.BAD);
-        due("told what 4", p.told(0, 4), Hand.BAD);
-        due("told layer -1", p.told(-1, 0), Hand.BAD);
-        due("told layer 2", p.told(2, 0), Hand.BAD);
-        for (int far : Hand.FAR) {
-            due("told far layer", p.told(far, 0), Hand.BAD);
-            due("told far what", p.told(0, far), Hand.BAD);
-        }
     }
 
     private static void promise7Makes() {
@@ -300,41 +224,6 @@ final class LayerTests {
         due("SCREEN is cut inside", p.taken(0, 2, 1), 201);
         p.dress(0, 1, 0, 255);
         due("TIMES of 255", p.taken(0, 1, 255), 200);
-    }
-
-    private static void promise7Under() {
-        boolean[][] under = {
-            {true, false, false, false, false, false},
-            {true, true, false, false, false, false},
-            {true, false, true, false, false, false},
-            {true, true, false, true, false, false},
-            {true, false, true, false, true, false},
-            {true, false, false, false, false, true}};
-        RasterPainter p = Hand.withLayers(1);
-        for (int mode = 0; mode < 6; mode++) {
-            p.dress(0, mode, 10, 255);
-            int made = p.taken(0, mode, 33);
-            for (int k = 0; k < 6; k++) {
-                due("mode " + mode + " taken for " + k, p.taken(0, k, 33), under[mode][k] ? made : Hand.UNLIKE);
-            }
-        }
-    }
-
-    private static void promise7Refusals() {
-        RasterPainter p = Hand.withLayers(1);
-        due("taken layer 1", p.taken(1, 0, 0), Hand.BAD);
-        due("taken layer -1", p.taken(-1, 0, 0), Hand.BAD);
-        due("taken k -1", p.taken(0, -1, 0), Hand.BAD);
-        due("taken k 6", p.taken(0, 6, 0), Hand.BAD);
-        due("taken b -1", p.taken(0, 0, -1), Hand.BAD);
-        due("taken b 256", p.taken(0, 0, 256), Hand.BAD);
-        due("taken BAD before -13", p.taken(0, 2, 256), Hand.BAD);
-        due("taken -13", p.taken(0, 2, 255), Hand.UNLIKE);
-        for (int far : Hand.FAR) {
-            due("taken far layer", p.taken(far, 0, 0), Hand.BAD);
-            due("taken far k", p.taken(0, far, 0), Hand.BAD);
-            due("taken far b", p.taken(0, 0, far), Hand.BAD);
-        }
     }
 
     private static void promise8Dot() {
@@ -397,21 +286,5 @@ final class LayerTests {
         p.dress(1, 1, 0, 128);
         // 38 + (29 - 38) * 128 / 255 is 38 - 4
         due("mode by opacity", p.dot(-1, 0, 0, 0), 34);
-    }
-
-    private static void promise8Refusals() {
-        RasterPainter p = Hand.withLayers(1);
-        int[][] wrong = {{1, 0, 0, 0}, {-2, 0, 0, 0}, {0, -1, 0, 0}, {0, 16, 0, 0}, {0, 0, -1, 0},
-            {0, 0, 12, 0}, {0, 0, 0, -1}, {0, 0, 0, 2}, {-1, 0, 0, 1}, {-1, 0, 0, -1},
-            {-1, 16, 0, 0}, {-1, 0, 12, 0}, {-1, -1, 0, 0}, {-1, 0, -1, 0}};
-        for (int[] w : wrong) {
-            due("dot wrong", p.dot(w[0], w[1], w[2], w[3]), Hand.BAD);
-        }
-        for (int far : Hand.FAR) {
-            due("dot far layer", p.dot(far, 0, 0, 0), Hand.BAD);
-            due("dot far x", p.dot(0, far, 0, 0), Hand.BAD);
-            due("dot far y", p.dot(0, 0, far, 0), Hand.BAD);
-            due("dot far what", p.dot(0, 0, 0, far), Hand.BAD);
-        }
     }
 }

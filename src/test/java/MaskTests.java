@@ -7,13 +7,10 @@ final class MaskTests {
 
     public static void main(String[] args) {
         promise16Mask();
-        promise16Refusals();
         promise17Wand();
-        promise17Refusals();
         promise18Grow();
         promise18Shrink();
         promise18Turn();
-        promise18Refusals();
         promise19Masked();
         CHECK.close();
     }
@@ -51,24 +48,6 @@ final class MaskTests {
         due("others go out of none", p.mask(0, 0, 15, 11, 3), 0);
     }
 
-    private static void promise16Refusals() {
-        RasterPainter p = new RasterPainter();
-        p.mask(4, 4, 4, 4, 0);
-        int[][] wrong = {{-1, 0, 0, 0, 0}, {16, 0, 0, 0, 0}, {0, -1, 0, 0, 0}, {0, 12, 0, 0, 0}, {0, 0, -1, 0, 0},
-            {0, 0, 16, 0, 0}, {0, 0, 0, -1, 0}, {0, 0, 0, 12, 0}, {0, 0, 0, 0, -1}, {0, 0, 0, 0, 4}};
-        for (int[] w : wrong) {
-            due("mask wrong", p.mask(w[0], w[1], w[2], w[3], w[4]), Hand.BAD);
-        }
-        for (int far : Hand.FAR) {
-            due("mask far x", p.mask(far, 0, 0, 0, 0), Hand.BAD);
-            due("mask far y", p.mask(0, far, 0, 0, 0), Hand.BAD);
-            due("mask far u", p.mask(0, 0, far, 0, 0), Hand.BAD);
-            due("mask far v", p.mask(0, 0, 0, far, 0), Hand.BAD);
-            due("mask far how", p.mask(0, 0, 0, 0, far), Hand.BAD);
-        }
-        rows("refused leaves the mask", p, 0, 0, 0, 0, 0b10000);
-    }
-
     private static RasterPainter withWall() {
         RasterPainter p = Hand.withLayers(1);
         p.brush(0, 0, 90, 9);
@@ -95,24 +74,6 @@ final class MaskTests {
         due("near the dot told", q.wand(0, 5, 5, 19, 0), 36);
         rows("columns", q, 0x70, 0x70, 0x70, 0x70, 0x70, 0x70, 0x70, 0x70, 0x70, 0x70, 0x70, 0x70);
         due("no act", q.count(1), 10);
-    }
-
-    private static void promise17Refusals() {
-        RasterPainter p = withWall();
-        p.mask(4, 4, 4, 4, 0);
-        int[][] wrong = {{1, 0, 0, 0, 0}, {-1, 0, 0, 0, 0}, {0, -1, 0, 0, 0}, {0, 16, 0, 0, 0}, {0, 0, -1, 0, 0},
-            {0, 0, 12, 0, 0}, {0, 0, 0, -1, 0}, {0, 0, 0, 256, 0}, {0, 0, 0, 0, -1}, {0, 0, 0, 0, 4}};
-        for (int[] w : wrong) {
-            due("wand wrong", p.wand(w[0], w[1], w[2], w[3], w[4]), Hand.BAD);
-        }
-        for (int far : Hand.FAR) {
-            due("wand far layer", p.wand(far, 0, 0, 0, 0), Hand.BAD);
-            due("wand far x", p.wand(0, far, 0, 0, 0), Hand.BAD);
-            due("wand far y", p.wand(0, 0, far, 0, 0), Hand.BAD);
-            due("wand far t", p.wand(0, 0, 0, far, 0), Hand.BAD);
-            due("wand far how", p.wand(0, 0, 0, 0, far), Hand.BAD);
-        }
-        rows("refused leaves the mask", p, 0, 0, 0, 0, 0b10000);
     }
 
     private static void promise18Grow() {
@@ -159,27 +120,11 @@ final class MaskTests {
         due("other row", p.masked(11), 0xffff);
     }
 
-    private static void promise18Refusals() {
-        RasterPainter p = new RasterPainter();
-        p.mask(4, 4, 4, 4, 0);
-        due("grow -1", p.grow(-1), Hand.BAD);
-        due("grow 3", p.grow(3), Hand.BAD);
-        for (int far : Hand.FAR) {
-            due("grow far", p.grow(far), Hand.BAD);
-        }
-        rows("refused leaves the mask", p, 0, 0, 0, 0, 0b10000);
-    }
-
     private static void promise19Masked() {
         RasterPainter p = new RasterPainter();
         p.mask(15, 0, 15, 11, 0);
         p.mask(0, 11, 0, 11, 1);
         due("row 0", p.masked(0), 0x8000);
         due("row 11", p.masked(11), 0x8001);
-        due("row -1", p.masked(-1), Hand.BAD);
-        due("row 12", p.masked(12), Hand.BAD);
-        for (int far : Hand.FAR) {
-            due("row far", p.masked(far), Hand.BAD);
-        }
     }
 }

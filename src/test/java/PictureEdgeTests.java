@@ -250,42 +250,50 @@ final class PictureEdgeTests {
         }
     }
 
-    /** "PAINTED with v by c: if c isn't 0" */
-    private static void paintedBy0() {
-        RasterPainter p = Hand.withLayers(1);
-        p.brush(3, 4, 200, 1);
+    private static void airAt4And4(RasterPainter p, int ink, int flow) {
+        p.brush(3, 4, ink, flow);
         Hand.stroke(p, 0, "move 4 4");
-        p.brush(3, 4, 90, 0);
-        Hand.stroke(p, 0, "move 4 4 line 8 4 line 12 8");
+    }
+
+    /** The dot at the rim has INK 200 and COVER 1. */
+    private static RasterPainter thin() {
+        RasterPainter p = Hand.withLayers(1);
+        airAt4And4(p, 200, 1);
+        due("the least TOUCH", p.touch(4, 0), 1);
+        dotIs("INK is v, if COVER was 0", p, RIM_X, RIM_Y, 200, 1);
+        return p;
+    }
+
+    private static void nothingBy0(int ink) {
+        RasterPainter p = thin();
+        airAt4And4(p, ink, 0);
+        Hand.stroke(p, 0, "move 8 4 line 12 8");
         dotIs("one that has cover", p, RIM_X, RIM_Y, 200, 1);
         dotIs("one without cover", p, 12, 8, 0, 0);
         due("no act", p.count(1), 1);
     }
 
+    /** "PAINTED with v by c: if c isn't 0" */
+    private static void paintedBy0() {
+        nothingBy0(90);
+        nothingBy0(255);
+    }
+
     /** "INK is v, if COVER was 0, else INK and (v less INK) c by 255; COVER is COVER and (255 less COVER) c by 255" */
     private static void paintedByTheLeast() {
-        RasterPainter p = Hand.withLayers(1);
-        p.brush(3, 4, 200, 1);
-        due("the least TOUCH", p.touch(4, 0), 1);
-        Hand.stroke(p, 0, "move 4 4");
-        dotIs("COVER was 0", p, RIM_X, RIM_Y, 200, 1);
-        p.brush(3, 4, 0, 1);
-        Hand.stroke(p, 0, "move 4 4");
+        RasterPainter p = thin();
+        airAt4And4(p, 0, 1);
         dotIs("COVER wasn't 0: too little for a change", p, RIM_X, RIM_Y, 200, 1);
         p.brush(0, 0, 0, 9);
         p.box(0, RIM_X, RIM_Y, RIM_X, RIM_Y);
-        p.brush(3, 4, 254, 1);
-        Hand.stroke(p, 0, "move 4 4");
+        airAt4And4(p, 254, 1);
         dotIs("254 by 255 of it", p, RIM_X, RIM_Y, 0, 255);
-        p.brush(3, 4, 255, 1);
-        Hand.stroke(p, 0, "move 4 4");
+        airAt4And4(p, 255, 1);
         dotIs("255 by 255 of it", p, RIM_X, RIM_Y, 1, 255);
     }
 
     private static void paintedBy255() {
-        RasterPainter p = Hand.withLayers(1);
-        p.brush(3, 4, 200, 1);
-        Hand.stroke(p, 0, "move 4 4");
+        RasterPainter p = thin();
         int[] inks = {0, 255, 1, 254};
         for (int ink : inks) {
             p.brush(0, 4, ink, 9);
@@ -296,37 +304,24 @@ final class PictureEdgeTests {
     }
 
     private static void wipedBy0() {
-        RasterPainter p = Hand.withLayers(1);
-        p.brush(3, 4, 200, 1);
-        Hand.stroke(p, 0, "move 4 4");
-        p.brush(3, 4, -1, 0);
-        Hand.stroke(p, 0, "move 4 4 line 8 4 line 12 8");
-        dotIs("one that has cover", p, RIM_X, RIM_Y, 200, 1);
-        dotIs("one without cover", p, 12, 8, 0, 0);
-        due("no act", p.count(1), 1);
+        nothingBy0(-1);
     }
 
     /** "WIPED by c: COVER is COVER (255 less c) by 255; INK is 0, if COVER is 0 then" */
     private static void wipedByTheLeast() {
-        RasterPainter p = Hand.withLayers(1);
-        p.brush(3, 4, 200, 1);
-        Hand.stroke(p, 0, "move 4 4");
-        p.brush(3, 4, -1, 1);
-        Hand.stroke(p, 0, "move 4 4");
+        RasterPainter p = thin();
+        airAt4And4(p, -1, 1);
         dotIs("COVER 1 is 0 then", p, RIM_X, RIM_Y, 0, 0);
-        Hand.stroke(p, 0, "move 4 4");
+        airAt4And4(p, -1, 1);
         dotIs("COVER 0 stays 0", p, RIM_X, RIM_Y, 0, 0);
         p.brush(3, 4, 200, 9);
         p.box(0, RIM_X, RIM_Y, RIM_X, RIM_Y);
-        p.brush(3, 4, -1, 1);
-        Hand.stroke(p, 0, "move 4 4");
+        airAt4And4(p, -1, 1);
         dotIs("COVER 255 is 254, INK stays", p, RIM_X, RIM_Y, 200, 254);
     }
 
     private static void wipedBy255() {
-        RasterPainter p = Hand.withLayers(1);
-        p.brush(3, 4, 200, 1);
-        Hand.stroke(p, 0, "move 4 4");
+        RasterPainter p = thin();
         p.box(0, 4, 4, 4, 4);
         p.brush(0, 4, -1, 9);
         Hand.stroke(p, 0, "move 4 4");

@@ -9,17 +9,13 @@ final class SeenTests {
         promise20Spread();
         promise20SpreadDown();
         promise20Pattern();
-        promise20Refusals();
         promise21Areas();
         promise21Ties();
-        promise21Refusals();
         promise22Places();
         promise22Seen();
         promise22InThought();
-        promise22Refusals();
         promise23Chance();
         promise23Seeds();
-        promise23Refusals();
         CHECK.close();
     }
 
@@ -148,19 +144,6 @@ final class SeenTests {
         due("of what is seen", p.dither(1, 2), 0xfff7);
     }
 
-    private static void promise20Refusals() {
-        RasterPainter p = new RasterPainter();
-        due("way -1", p.dither(-1, 0), Hand.BAD);
-        due("way 2", p.dither(2, 0), Hand.BAD);
-        due("row -1", p.dither(0, -1), Hand.BAD);
-        due("row 12", p.dither(1, 12), Hand.BAD);
-        for (int far : Hand.FAR) {
-            due("far way", p.dither(far, 0), Hand.BAD);
-            due("far row", p.dither(0, far), Hand.BAD);
-            due("far row, way 1", p.dither(1, far), Hand.BAD);
-        }
-    }
-
     private static void areas(String what, RasterPainter p, int count, int size, int seen) {
         due(what + ": areas", p.areas(0), count);
         due(what + ": dots of the greatest", p.areas(1), size);
@@ -209,15 +192,6 @@ final class SeenTests {
         areas("the lower is greater then", p, 3, 96, 7);
         p.box(0, 15, 11, 15, 11);
         areas("like again", p, 4, 95, 8);
-    }
-
-    private static void promise21Refusals() {
-        RasterPainter p = new RasterPainter();
-        due("areas -1", p.areas(-1), Hand.BAD);
-        due("areas 3", p.areas(3), Hand.BAD);
-        for (int far : Hand.FAR) {
-            due("areas far", p.areas(far), Hand.BAD);
-        }
     }
 
     private static int drawnAfter(int z) {
@@ -312,19 +286,6 @@ final class SeenTests {
         due("what was undone can be done again", p.undo(1), 4);
     }
 
-    private static void promise22Refusals() {
-        RasterPainter p = Hand.withLayers(1);
-        due("sprayed layer 1", p.sprayed(1, 0, 1), Hand.BAD);
-        due("sprayed layer -1", p.sprayed(-1, 0, 1), Hand.BAD);
-        due("sprayed n -1", p.sprayed(0, 0, -1), Hand.BAD);
-        due("sprayed n 31", p.sprayed(0, 0, 31), Hand.BAD);
-        due("sprayed n 0", p.sprayed(0, 0, 0), 0);
-        for (int far : Hand.FAR) {
-            due("sprayed far layer", p.sprayed(far, 0, 0), Hand.BAD);
-            due("sprayed far n", p.sprayed(0, 0, far), Hand.BAD);
-        }
-    }
-
     private static int common(int a, int b) {
         return b == 0 ? a : common(b, a % b);
     }
@@ -370,22 +331,5 @@ final class SeenTests {
         due("through the mask", p.chance(0, 0, 10, 9, 6, 0), 0);
         p.dress(0, 0, 0, 0);
         due("not seen", p.chance(0, 0, 10, 8, 6, 0), 0);
-    }
-
-    private static void promise23Refusals() {
-        RasterPainter p = Hand.withLayers(1);
-        int[][] wrong = {{1, 1, 0, 0, 0}, {-1, 1, 0, 0, 0}, {0, 0, 0, 0, 0}, {0, 11, 0, 0, 0}, {0, -1, 0, 0, 0},
-            {0, 1, -1, 0, 0}, {0, 1, 16, 0, 0}, {0, 1, 0, -1, 0}, {0, 1, 0, 12, 0}, {0, 1, 0, 0, -1}, {0, 1, 0, 0, 2}};
-        for (int[] w : wrong) {
-            due("chance wrong", p.chance(w[0], 5, w[1], w[2], w[3], w[4]), Hand.BAD);
-        }
-        for (int far : Hand.FAR) {
-            due("chance far layer", p.chance(far, 0, 1, 0, 0, 0), Hand.BAD);
-            due("chance far m", p.chance(0, 0, far, 0, 0, 0), Hand.BAD);
-            due("chance far x", p.chance(0, 0, 1, far, 0, 0), Hand.BAD);
-            due("chance far y", p.chance(0, 0, 1, 0, far, 0), Hand.BAD);
-            due("chance far part", p.chance(0, 0, 1, 0, 0, far), Hand.BAD);
-            CHECK.holds("any seed", p.chance(0, far, 10, 0, 0, 1) > 0);
-        }
     }
 }

@@ -9,9 +9,7 @@ final class ToldTests {
         promise24First();
         promise24Papers();
         promise24Modes();
-        promise24Refusals();
         promise25Film();
-        promise25Refusals();
         promise26Image();
         promise27Back();
         promise27Acts();
@@ -114,32 +112,6 @@ final class ToldTests {
         due("the mode stays", p.told(0, 0), 1);
     }
 
-    private static void promise24Refusals() {
-        RasterPainter p = Hand.withLayers(2);
-        due("missing", p.tells(3, 0, 0), Hand.MISSING);
-        due("sheet -1", p.tells(-1, 0, 0), Hand.BAD);
-        due("sheet 4", p.tells(4, 0, 0), Hand.BAD);
-        due("BAD y before -11", p.tells(3, 12, 0), Hand.BAD);
-        due("BAD y -1 before -11", p.tells(3, -1, 0), Hand.BAD);
-        due("BAD what before -11", p.tells(3, 0, -1), Hand.BAD);
-        due("BAD what of no layer before -11", p.tells(3, 0, 4), Hand.BAD);
-        due("the last layer", p.tells(3, 0, 3), Hand.MISSING);
-        due("what 1", p.tells(3, 0, 1), Hand.MISSING);
-        p.sheet(3, 0, 17);
-        for (int what = 0; what <= 3; what++) {
-            due("more than 16", p.tells(3, 0, what), Hand.BAD);
-        }
-        p.sheet(3, 0, 16);
-        due("16", p.tells(3, 0, 0), 0);
-        due("what 2 without layers", new RasterPainter().tells(0, 0, 2), Hand.BAD);
-        due("what 1 without layers", new RasterPainter().tells(0, 0, 1), Hand.MISSING);
-        for (int far : Hand.FAR) {
-            due("tells far sheet", p.tells(far, 0, 0), Hand.BAD);
-            due("tells far y", p.tells(3, far, 0), Hand.BAD);
-            due("tells far what", p.tells(3, 0, far), Hand.BAD);
-        }
-    }
-
     private static void promise25Film() {
         RasterPainter p = Hand.withLayers(1);
         p.brush(1, 4, 40, 9);
@@ -165,21 +137,6 @@ final class ToldTests {
         due("a film stays as it was taken", p.tells(1, 4, 0), 0);
         p.undo(0);
         due("and tells again", p.tells(1, 4, 0), -1);
-    }
-
-    private static void promise25Refusals() {
-        RasterPainter p = new RasterPainter();
-        p.sheet(1, 1, 3);
-        due("film sheet -1", p.film(-1, 0), Hand.BAD);
-        due("film sheet 4", p.film(4, 0), Hand.BAD);
-        due("film y -1", p.film(1, -1), Hand.BAD);
-        due("film y 12", p.film(1, 12), Hand.BAD);
-        for (int far : Hand.FAR) {
-            due("film far sheet", p.film(far, 0), Hand.BAD);
-            due("film far y", p.film(1, far), Hand.BAD);
-        }
-        due("refused leaves the sheet", p.put(1, 3, 0), Hand.OUTSIDE);
-        due("refused makes none", p.put(0, 0, 0), Hand.MISSING);
     }
 
     private static void promise26Image() {
@@ -316,11 +273,6 @@ final class ToldTests {
         int[] counts = {3, 2, 1, 6, 10, 3, 12, 8};
         for (int what = 0; what < 8; what++) {
             due("count " + what, p.count(what), counts[what]);
-        }
-        due("count -1", p.count(-1), Hand.BAD);
-        due("count 8", p.count(8), Hand.BAD);
-        for (int far : Hand.FAR) {
-            due("count far", p.count(far), Hand.BAD);
         }
     }
 }
