@@ -35,6 +35,7 @@ final class ActEdgeTests {
         actsAreTenAtMost();
         doneAgainTillAnotherIsKept();
         layersForgetActs();
+        noOtherCallForgetsActs();
         CHECK.close();
     }
 
@@ -458,12 +459,6 @@ final class ActEdgeTests {
         p.box(0, 0, 0, 0, 0);
         p.box(0, 1, 0, 1, 0);
         p.undo(0);
-        p.dress(0, 5, 99, 3);
-        p.mask(0, 0, 0, 0, 1);
-        p.image();
-        Hand.stroke(p, 0, "move x");
-        due("nothing of these keeps an act", p.count(2), 1);
-        p.mask(0, 0, 0, 0, 2);
         p.box(1, 1, 0, 1, 0);
         due("an act of another layer does", p.undo(1), Hand.STATE);
         due("its dot isn't painted", p.dot(0, 1, 0, 1), 0);
@@ -495,5 +490,28 @@ final class ActEdgeTests {
         due(what + ": none to undo", p.undo(0), Hand.STATE);
         due(what + ": none to do again", p.undo(1), Hand.STATE);
         due(what + ": the dot stays", p.dot(layerThen, 0, 0, 1), 255);
+    }
+
+    private static void noOtherCallForgetsActs() {
+        RasterPainter p = Hand.withLayers(2);
+        p.box(0, 0, 0, 0, 0);
+        p.box(1, 0, 0, 0, 0);
+        p.undo(0);
+        p.dress(1, 5, 99, 3);
+        p.dress(-1, 0, 0, 3);
+        p.brush(4, 4, -1, 0);
+        p.mask(0, 0, 3, 3, 0);
+        p.wand(0, 5, 5, 0, 1);
+        p.grow(2);
+        p.film(0, 0);
+        p.sheet(1, 1, 3);
+        p.image();
+        p.back();
+        due("a stroke of none", Hand.stroke(p, 0, "move 5 5"), 1);
+        due("a faulty stroke", Hand.stroke(p, 0, "move x"), -105);
+        due("kept", p.count(1), 1);
+        due("can be done again", p.count(2), 1);
+        due("done again", p.undo(1), 1);
+        due("in its layer", p.dot(1, 0, 0, 1), 255);
     }
 }

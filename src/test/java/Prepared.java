@@ -1,4 +1,4 @@
-/** Painters in which much has been done, made always in the same way. */
+/** Painters in which much has been done, made always in the same way; the sheets tell row 3, so far as they can. */
 final class Prepared {
     /** Where both have what the calls on sheets need. */
     static final int SHORTS = 0, INTS = 1, OTHER = 2, FILM = 3;
@@ -22,10 +22,13 @@ final class Prepared {
         p.undo(0);
         p.mask(2, 2, 9, 9, 0);
         Hand.feed(p, "move 5 5 close ");
-        p.sheet(SHORTS, 0, 5);
-        p.sheet(INTS, 1, 5);
-        p.put(INTS, 4, 30);
         p.film(FILM, 3);
+        p.sheet(SHORTS, 0, 5);
+        p.copy(FILM, 0, SHORTS, 0, 5);
+        p.sheet(INTS, 1, 5);
+        for (int x = 0; x < 5; x++) {
+            p.put(INTS, x, p.dot(-1, x, 3, 0));
+        }
         return p;
     }
 
@@ -41,10 +44,12 @@ final class Prepared {
         p.box(0, 2, 2, 9, 9);
         Hand.feed(p, "move 0 0 line 15 11 close line 15 11 close close across   15");
         p.mask(0, 0, 15, 11, 0);
+        p.film(FILM, 3);
         p.sheet(SHORTS, 0, 40);
+        p.copy(FILM, 0, SHORTS, 0, 16);
         p.sheet(INTS, 1, 40);
         p.sheet(OTHER, 0, 17);
-        p.film(FILM, 3);
+        p.copy(FILM, 0, OTHER, 0, 16);
         return p;
     }
 }

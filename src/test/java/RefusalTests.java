@@ -1,6 +1,7 @@
 /**
  * The refusals that are not of a number's bounds (RangeTests has those): no layers, FULL, STATE, -11 to -14;
- * and which of two refusals comes first where both would hold. Behind each Twins look at all the rest.
+ * and which of two refusals comes first where both would hold. Behind each Twins look at all the rest,
+ * and behind the calls that only look, too.
  */
 final class RefusalTests {
     private static final Check CHECK = new Check("RefusalTests");
@@ -27,6 +28,8 @@ final class RefusalTests {
         promise30Refusals();
         promise31Refusals();
         promise31Order();
+        looksChangeNothing(WORKED);
+        looksChangeNothing(CROWDED);
         CHECK.close();
     }
 
@@ -265,5 +268,30 @@ final class RefusalTests {
         WORKED.refuse("-13 before -12", p -> p.copy(shorts, -1, ints, 0, 1), Hand.UNLIKE);
         WORKED.refuse("-13 before -12 of the other", p -> p.copy(ints, 0, shorts, 5, 1), Hand.UNLIKE);
         WORKED.refuse("-13 before -12 of n", p -> p.copy(ints, 0, shorts, 0, -1), Hand.UNLIKE);
+    }
+
+    private static void looksChangeNothing(Twins twins) {
+        twins.look("told", p -> p.told(1, 3));
+        twins.look("taken", p -> p.taken(1, 1, 90));
+        twins.look("dot", p -> p.dot(1, 9, 9, 1));
+        twins.look("dot SEEN", p -> p.dot(-1, 9, 9, 0));
+        twins.look("touch", p -> p.touch(1, 1));
+        twins.look("masked", p -> p.masked(5));
+        twins.look("dither", p -> p.dither(0, 11));
+        twins.look("dither by the pattern", p -> p.dither(1, 11));
+        for (int what = 0; what < 3; what++) {
+            int asked = what;
+            twins.look("areas", p -> p.areas(asked));
+        }
+        twins.look("sprayed", p -> p.sprayed(1, 77, 30));
+        twins.look("chance", p -> p.chance(1, 77, 10, 9, 9, 0));
+        for (int what = 0; what < 4; what++) {
+            int asked = what;
+            twins.look("tells", p -> p.tells(Prepared.FILM, 3, asked));
+        }
+        for (int what = 0; what < 8; what++) {
+            int asked = what;
+            twins.look("count", p -> p.count(asked));
+        }
     }
 }

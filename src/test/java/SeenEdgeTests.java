@@ -9,6 +9,7 @@ final class SeenEdgeTests {
     public static void main(String[] args) {
         lightFrom128On();
         whatIsLeftIsCutTowards0();
+        whatIsLeftBelowIsCutTowards0();
         whatIsLeftHasNoBounds();
         noneGoesOutside();
         patternAbove16TAnd7();
@@ -18,6 +19,7 @@ final class SeenEdgeTests {
         sprayedNoneAndThirty();
         drawsWrapAround();
         seedsWrapAround();
+        chanceByFourStamps();
         chanceInLowestTerms();
         toldUpTo16();
         toldNone();
@@ -73,6 +75,34 @@ final class SeenEdgeTests {
         due("1 and 127", rowOf(3, 127).dither(0, 0), 2);
         due("0 and 128", rowOf(253, 128).dither(0, 0), 3);
         due("-1 and 128", rowOf(252, 128).dither(0, 0), 1);
+    }
+
+    /** Whether the last of these inks in row 1, from x 4 on, is light below the inks of (5, 0) and (6, 0). */
+    private static int below(int ink, int beside, int... from4) {
+        RasterPainter p = rowOf(0, 0, 0, 0, 0, ink, beside);
+        for (int i = 0; i < from4.length; i++) {
+            p.brush(0, 0, from4[i], 9);
+            p.box(0, 4 + i, 1, 4 + i, 1);
+        }
+        return p.dither(0, 1) >> 3 + from4.length & 1;
+    }
+
+    /** "3 by 16 below left, 5 by 16 below, 1 by 16 below right" */
+    private static void whatIsLeftBelowIsCutTowards0() {
+        // 127 leaves 23 (23.8), 39 (39.7), 7 (7.9); the dots between are 255 then and leave nothing
+        due("23 and 104", below(127, 200, 104), 0);
+        due("23 and 105", below(127, 200, 105), 1);
+        due("39 and 88", below(127, 200, 232, 88), 0);
+        due("39 and 89", below(127, 200, 232, 89), 1);
+        due("7 and 120", below(127, 200, 232, 216, 120), 0);
+        due("7 and 121", below(127, 200, 232, 216, 121), 1);
+        // 128 leaves as much below 0; the dots between are 0 then
+        due("-23 and 150", below(128, 55, 150), 0);
+        due("-23 and 151", below(128, 55, 151), 1);
+        due("-39 and 166", below(128, 55, 23, 166), 0);
+        due("-39 and 167", below(128, 55, 23, 167), 1);
+        due("-7 and 134", below(128, 55, 23, 39, 134), 0);
+        due("-7 and 135", below(128, 55, 23, 39, 135), 1);
     }
 
     /** Below 0 and above 255 it goes on as it is. */
@@ -229,6 +259,23 @@ final class SeenEdgeTests {
                 int three = above + p.chance(0, GREATEST - 1, 1, x, y, 0);
                 due("three seeds", p.chance(0, GREATEST - 1, 3, x, y, 0), three == 3 ? 1 : three);
                 due("of three", p.chance(0, GREATEST - 1, 3, x, y, 1), three % 3 == 0 ? 1 : 3);
+            }
+        }
+    }
+
+    /** "IN m seeds ..., n 4": the fourth stamp counts, the fifth doesn't */
+    private static void chanceByFourStamps() {
+        RasterPainter p = Hand.withLayers(1);
+        p.brush(0, 0, 0, 9);
+        for (int seed = 0; seed < 10; seed++) {
+            int z = seed;
+            for (int k = 1; k <= 5; k++) {
+                z = z * 1103515245 + 12345;
+                int x = (z >>> 9) % 16;
+                z = z * 1103515245 + 12345;
+                int y = (z >>> 9) % 12;
+                boolean isNew = p.sprayed(0, seed, k) > p.sprayed(0, seed, k - 1);
+                due("stamp " + k + " of " + seed, p.chance(0, seed, 1, x, y, 0), k <= 4 || !isNew ? 1 : 0);
             }
         }
     }

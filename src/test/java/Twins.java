@@ -34,6 +34,13 @@ final class Twins {
         check.due(name + ": behind " + what + ", the first answer that is otherwise", firstOtherwise(p), -1);
     }
 
+    /** The call only looks: nothing is changed by it. */
+    void look(String what, Call call) {
+        RasterPainter p = making.make();
+        call.on(p);
+        check.due(name + ": behind " + what + ", the first answer that is otherwise", firstOtherwise(p), -1);
+    }
+
     /** The call is answered so, whatever it changes. */
     void answer(String what, Call call, int want) {
         check.due(name + ": " + what, call.on(making.make()), want);
@@ -110,7 +117,11 @@ final class Twins {
         for (int sheet = 0; sheet < 4; sheet++) {
             answers.add(p.tells(sheet, 3, 0));
             answers.add(p.tells(sheet, 3, 1));
-            answers.add(p.copy(sheet, 0, (sheet + 1) % 4, 0, 1));
+        }
+        for (int sheet = 0; sheet < 3; sheet++) {
+            answers.add(p.copy(sheet, 0, Prepared.FILM, 0, 16));
+            answers.add(p.tells(Prepared.FILM, 3, 0));
+            answers.add(p.copy(sheet, 0, sheet + 1, 0, 1));
         }
         int[] places = {0, 4, 15, 16, 39};
         for (int sheet = 0; sheet < 4; sheet++) {
