@@ -36,6 +36,7 @@ final class ActEdgeTests {
         doneAgainTillAnotherIsKept();
         layersForgetActs();
         noOtherCallForgetsActs();
+        countsAtTheirLeastAndMost();
         CHECK.close();
     }
 
@@ -513,5 +514,35 @@ final class ActEdgeTests {
         due("can be done again", p.count(2), 1);
         due("done again", p.undo(1), 1);
         due("in its layer", p.dot(1, 0, 0, 1), 255);
+    }
+
+    private static void counts(String what, RasterPainter p, int... want) {
+        for (int i = 0; i < want.length; i++) {
+            due(what + ": count " + i, p.count(i), want[i]);
+        }
+    }
+
+    /** Promise 28: each number at its least and at its most */
+    private static void countsAtTheirLeastAndMost() {
+        RasterPainter p = new RasterPainter();
+        counts("bare", p, 0, 0, 0, 0, 0, 9, 0, 0);
+        p = Hand.withLayers(4);
+        for (int i = 0; i < 11; i++) {
+            p.brush(0, 4, 245 + i, 9);
+            p.box(i % 4, 0, 0, 15, 11);
+        }
+        p.grow(2);
+        Hand.feed(p, "                                                            ");
+        counts("full", p, 4, 10, 0, 120, 192, 9, 255, 60);
+        for (int i = 1; i <= 10; i++) {
+            due("undone", p.undo(0), 12);
+            counts("undone " + i, p, 4, 10 - i, i, 120);
+        }
+        p.brush(0, 0, -1, 0);
+        p.stroke(0);
+        p.mask(15, 11, 0, 0, 2);
+        counts("the brush at its least", p, 4, 0, 10, 120, 0, 0, -1, 0);
+        p.drop(0);
+        counts("forgotten", p, 3, 0, 0, 0, 0, 0, -1, 0);
     }
 }

@@ -60,16 +60,6 @@ final class ActTests {
         due("free though painted already", p.box(0, 0, 0, 4, 4), 4);
     }
 
-    /** A layer in which column x has ink 10 x and whole cover. */
-    private static RasterPainter withColumns() {
-        RasterPainter p = Hand.withLayers(1);
-        for (int x = 0; x < 16; x++) {
-            p.brush(0, 0, 10 * x, 9);
-            p.box(0, x, 0, x, 11);
-        }
-        return p;
-    }
-
     /** Walls from above and from below by turns: a region goes round them up and down. */
     private static RasterPainter withMaze() {
         RasterPainter p = Hand.withLayers(1);
@@ -117,16 +107,16 @@ final class ActTests {
     }
 
     private static void promise14FloodOfTheFirst() {
-        RasterPainter p = withColumns();
+        RasterPainter p = Hand.withColumns();
         p.brush(0, 0, 255, 9);
         due("near the dot told, not the one beside", p.flood(0, 5, 5, 20), 60);
         due("row", p.dot(0, 2, 0, 0), 20);
         due("row", p.dot(0, 3, 0, 0), 255);
         due("row", p.dot(0, 7, 0, 0), 255);
         due("row", p.dot(0, 8, 0, 0), 80);
-        due("t just below", withColumns().flood(0, 5, 5, 9), 12);
-        due("t just enough", withColumns().flood(0, 5, 5, 10), 36);
-        due("t 255", withColumns().flood(0, 5, 5, 255), 192);
+        due("t just below", Hand.withColumns().flood(0, 5, 5, 9), 12);
+        due("t just enough", Hand.withColumns().flood(0, 5, 5, 10), 36);
+        due("t 255", Hand.withColumns().flood(0, 5, 5, 255), 192);
     }
 
     private static void promise14Mask() {

@@ -13,6 +13,16 @@ final class Hand {
         return p;
     }
 
+    /** A layer in which column x has ink 10 x and whole cover; so is every row seen. */
+    static RasterPainter withColumns() {
+        RasterPainter p = withLayers(1);
+        for (int x = 0; x < 16; x++) {
+            p.brush(0, 0, 10 * x, 9);
+            p.box(0, x, 0, x, 11);
+        }
+        return p;
+    }
+
     /** Feeds a text in pieces of five bytes; the last answer. */
     static int feed(RasterPainter p, String text) {
         int answer = 0;

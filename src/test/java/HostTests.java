@@ -17,16 +17,6 @@ final class HostTests {
         CHECK.due(what, got, want);
     }
 
-    /** A painter whose row 0 is seen as 0, 10, 20, .., so that sheets can be read by tells. */
-    private static RasterPainter withColumns() {
-        RasterPainter p = Hand.withLayers(1);
-        for (int x = 0; x < 16; x++) {
-            p.brush(0, 0, 10 * x, 9);
-            p.box(0, x, 0, x, 11);
-        }
-        return p;
-    }
-
     private static void promise29Sheet() {
         RasterPainter p = new RasterPainter();
         p.dress(-1, 0, 0, 0);
@@ -51,7 +41,7 @@ final class HostTests {
     }
 
     private static void promise30Put() {
-        RasterPainter p = withColumns();
+        RasterPainter p = Hand.withColumns();
         p.sheet(0, 1, 4);
         due("put", p.put(0, 1, 10), 1);
         due("put the last", p.put(0, 3, 30), 1);
@@ -69,7 +59,7 @@ final class HostTests {
     }
 
     private static void promise31Copy() {
-        RasterPainter p = withColumns();
+        RasterPainter p = Hand.withColumns();
         p.film(0, 0);
         p.sheet(1, 0, 5);
         due("copy", p.copy(0, 1, 1, 1, 3), 3);
@@ -94,7 +84,7 @@ final class HostTests {
     }
 
     private static void promise31Itself() {
-        RasterPainter p = withColumns();
+        RasterPainter p = Hand.withColumns();
         p.sheet(0, 1, 4);
         p.put(0, 0, 10);
         p.put(0, 1, 20);

@@ -66,11 +66,7 @@ final class MaskTests {
         due("go out of it", p.wand(0, 0, 0, 254, 2), 11);
         due("t 255", p.wand(0, 0, 0, 255, 0), 192);
         due("cover counts", p.wand(0, 3, 0, 254, 0), 11);
-        RasterPainter q = Hand.withLayers(1);
-        for (int x = 0; x < 16; x++) {
-            q.brush(0, 0, 10 * x, 9);
-            q.box(0, x, 0, x, 11);
-        }
+        RasterPainter q = Hand.withColumns();
         due("near the dot told", q.wand(0, 5, 5, 19, 0), 36);
         rows("columns", q, 0x70, 0x70, 0x70, 0x70, 0x70, 0x70, 0x70, 0x70, 0x70, 0x70, 0x70, 0x70);
         due("no act", q.count(1), 10);
