@@ -2,7 +2,7 @@ import java.lang.reflect.Method;
 import java.lang.reflect.Modifier;
 import java.util.Arrays;
 
-/** Long runs of calls, answered by the program and by SlowPainter alike. */
+/** Runs of as many calls as an object is for, answered by the program and by SlowPainter alike. */
 final class DifferentialTests {
     private static final Check CHECK = new Check("DifferentialTests");
     private static final String[] NAMES = {"layer", "drop", "move", "dress", "told", "taken", "dot", "brush", "touch",
@@ -18,16 +18,27 @@ final class DifferentialTests {
     private static final Method[] FAST = methodsOf(RasterPainter.class);
     private static final Method[] SLOW = methodsOf(SlowPainter.class);
 
-    private long state;
+    /** An object is for so many calls. */
+    private static final int CALLS = 512;
+    /** What is looked at in the end: two rows each of 12, and 8 counts. */
+    private static final int LAST_LOOKS = 32;
+    /** The longest text of a stroke comes in fewer calls, the stroke with them. */
+    private static final int STROKE_CALLS = 20;
+    /** Of so many numbers two or three are outside of what a call allows, and five at its ends. */
+    private static final int TAME = 60, WILD = 12;
 
-    private DifferentialTests(long seed) {
+    private long state;
+    private final int rarity;
+
+    private DifferentialTests(long seed, int rarity) {
         state = seed;
+        this.rarity = rarity;
     }
 
     public static void main(String[] args) {
         int runs = args.length > 0 ? Integer.parseInt(args[0]) : 250;
         for (int run = 0; run < runs; run++) {
-            new DifferentialTests(run * 7919L + 17).run(run);
+            new DifferentialTests(run * 7919L + 17, run % 5 == 4 ? WILD : TAME).run(run);
         }
         CHECK.close();
     }
@@ -39,7 +50,7 @@ final class DifferentialTests {
 
     /** A number from least to most, now and then one outside. */
     private int near(int least, int most) {
-        int way = draw(60);
+        int way = draw(rarity);
         if (way == 0) {
             return least - 1;
         }
@@ -47,7 +58,7 @@ final class DifferentialTests {
             return most + 1;
         }
         if (way == 2) {
-            int[] far = {Integer.MIN_VALUE, Integer.MAX_VALUE, -100, 1000, 65536};
+            int[] far = {Integer.MIN_VALUE, Integer.MAX_VALUE, -100, 1000, 65536, draw(1 << 30) * 4 + draw(4)};
             return far[draw(far.length)];
         }
         if (way < 8) {
@@ -194,9 +205,10 @@ final class DifferentialTests {
             int[] a = {draw(6), draw(100), 128 + draw(128)};
             same(run, calls, p, q, 0, a);
         }
-        while (calls < 440) {
+        while (calls < CALLS - LAST_LOOKS) {
             int call = pick();
-            if (NAMES[call].equals("stroke") && draw(8) != 0) {
+            boolean hasRoom = calls <= CALLS - LAST_LOOKS - STROKE_CALLS;
+            if (NAMES[call].equals("stroke") && hasRoom && draw(8) != 0) {
                 String text = strokeText();
                 for (int i = 0; i < text.length(); i += 5) {
                     int[] a = new int[6];
@@ -216,6 +228,7 @@ final class DifferentialTests {
         for (int what = 0; what < 8; what++) {
             same(run, calls++, p, q, 26, new int[] {what});
         }
+        CHECK.due("run " + run + ": calls", calls, CALLS);
     }
 
     private static void same(int run, int n, RasterPainter p, SlowPainter q, int call, int[] a) {

@@ -13,9 +13,11 @@ final class SeenTests {
         promise21Ties();
         promise22Places();
         promise22Seen();
+        promise22SeenOnPaper();
         promise22InThought();
         promise23Chance();
         promise23Seeds();
+        promise23SeenOnPaper();
         CHECK.close();
     }
 
@@ -272,6 +274,37 @@ final class SeenTests {
         due("of flow 0", p.sprayed(1, 7, 30), 0);
     }
 
+    /** SEEN is otherwise where it is so on this PAPER, by this MODE and OPACITY, below these layers. */
+    private static void promise22SeenOnPaper() {
+        RasterPainter p = withPaper(100);
+        p.brush(0, 0, 100, 9);
+        due("ink as the paper", p.sprayed(0, 7, 10), 0);
+        p.brush(0, 0, 101, 9);
+        due("ink one above", p.sprayed(0, 7, 1), 1);
+        p.dress(0, 0, 0, 254);
+        due("one above, cut to nothing", p.sprayed(0, 7, 1), 0);
+        p.dress(0, 1, 0, 255);
+        p.brush(0, 0, 255, 9);
+        due("TIMES by 255", p.sprayed(0, 7, 10), 0);
+        p.dress(0, 3, 1, 255);
+        due("BURN by its FIGURE", p.sprayed(0, 7, 1), 1);
+        p.dress(0, 5, 0, 255);
+        p.brush(0, 0, 0, 9);
+        due("APART by 0", p.sprayed(0, 7, 10), 0);
+        p.brush(0, 0, 200, 9);
+        due("APART by twice the paper", p.sprayed(0, 7, 10), 0);
+        p.layer(1, 0, 255);
+        p.brush(0, 0, 2, 9);
+        p.box(1, 0, 0, 15, 11);
+        p.brush(0, 0, 100, 9);
+        // 100 TIMES 2 by 255 and 0 TIMES 2 by 255 are 0
+        due("below a dark layer", p.sprayed(0, 7, 1), 0);
+        p.dress(1, 2, 0, 255);
+        due("below a SCREEN", p.sprayed(0, 7, 1), 1);
+        p.dress(-1, 0, 0, 0);
+        due("no more than that on other PAPER", p.sprayed(0, 7, 1), 1);
+    }
+
     private static void promise22InThought() {
         RasterPainter p = Hand.withLayers(2);
         p.brush(1, 3, 40, 9);
@@ -331,5 +364,19 @@ final class SeenTests {
         due("through the mask", p.chance(0, 0, 10, 9, 6, 0), 0);
         p.dress(0, 0, 0, 0);
         due("not seen", p.chance(0, 0, 10, 8, 6, 0), 0);
+    }
+
+    private static void promise23SeenOnPaper() {
+        RasterPainter p = withPaper(100);
+        p.brush(2, 4, 100, 9);
+        due("ink as the paper", p.chance(0, 0, 10, 8, 6, 0), 0);
+        p.brush(2, 4, 101, 9);
+        int above = 0;
+        for (int i = 0; i < 10; i++) {
+            above += p.chance(0, i, 1, 8, 6, 0);
+        }
+        CHECK.holds("some by ink one above", above > 0);
+        p.mask(9, 6, 9, 6, 0);
+        due("none where it isn't free", p.chance(0, 0, 10, 8, 6, 0), 0);
     }
 }
